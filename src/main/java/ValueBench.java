@@ -607,10 +607,6 @@ public final class ValueBench {
         }
 
         private void placeChoices(Program program, Graph graph) {
-            Arrays.fill(choosing, 0);
-            if (!graph.reaches(ENTRY)) {
-                return;
-            }
             for (int v = 0; v < VARIABLES; v++) {
                 int giving = 1 << ENTRY | givingBlocks(program, v) & graph.reached;
                 int all = Graph.closure(giving, graph.frontier, 0);
@@ -635,10 +631,7 @@ public final class ValueBench {
             size = 0;
             Arrays.fill(choices, 0);
             Arrays.fill(given, NONE);
-            // ZERO is of the ENTRY, so without BLOCKS there is not even ZERO.
-            if (!graph.reaches(ENTRY)) {
-                return;
-            }
+            // The document numbers ZERO ahead of all BLOCKS, so it is there without any, too.
             add(CONST, ENTRY, NONE, 0, 0);
             for (int b = 0; b < MOST_BLOCKS; b++) {
                 if (graph.reaches(b)) {

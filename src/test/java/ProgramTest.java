@@ -18,11 +18,17 @@ public final class ProgramTest {
         DUE.end();
     }
 
+    /** Without BLOCKS there is ZERO, which the document numbers ahead of them, and its CLASS. */
+    private static void countsOfNothing(ValueBench x) {
+        int[] due = {0, 0, 0, 1, 1, 0, 0};
+        for (int what = 0; what <= 6; what++) {
+            DUE.is("count " + what + " of nothing", x.count(what), due[what]);
+        }
+    }
+
     private static void newObject() {
         ValueBench x = new ValueBench();
-        for (int what = 0; what <= 6; what++) {
-            DUE.is("new count " + what, x.count(what), 0);
-        }
+        countsOfNothing(x);
         for (int what = -1; what <= 4; what++) {
             DUE.is("new ran " + what, x.ran(what), 0);
         }
@@ -33,10 +39,10 @@ public final class ProgramTest {
         DUE.is("new predecessor", x.predecessor(0, 0), NONE);
         DUE.is("new dominates", x.dominates(0, 0), NONE);
         DUE.is("new meets", x.meets(0, 0), NONE);
-        DUE.is("new value", x.value(0, 0), NONE);
+        DUE.is("new value", x.value(1, 0), NONE);
         DUE.is("new operand", x.operand(0, 0), NONE);
         DUE.is("new led", x.led(0, 0), NONE);
-        DUE.is("new classOf", x.classOf(0), NONE);
+        DUE.is("new classOf", x.classOf(1), NONE);
         DUE.is("new read", x.read(0, false), NONE);
         DUE.is("new emits", x.emits(0, 0, true), NONE);
         DUE.is("new run", x.run(0, 1, 2, 3, 4), NONE);
@@ -201,8 +207,8 @@ public final class ProgramTest {
         DUE.is("with a way back", x.predecessor(0, 0), 0);
         x.ends(2, 1, 0, 15, 0);
         DUE.is("JUMP to a missing one", x.about(2, 6), 0);
-        DUE.is("reads VARIABLE 0 there", x.read(2, false), x.value(x.read(2, false), 2) == 0
-                ? x.read(2, false) : NONE);
+        // Behind ZERO and the ENTRY's ten CHOICES.
+        DUE.is("reads VARIABLE 0 there", x.read(2, false), 11);
         x.ends(1, 1, 0, 15, 0);
         DUE.is("of one not reached", x.about(1, 6), 0);
     }
@@ -219,9 +225,7 @@ public final class ProgramTest {
         x.run(0, 0, 0, 0, 0);
         DUE.is("clear", x.clear(), 2);
         DUE.is("clear again", x.clear(), 0);
-        for (int what = 0; what <= 6; what++) {
-            DUE.is("count " + what, x.count(what), 0);
-        }
+        countsOfNothing(x);
         DUE.is("run", x.run(0, 0, 0, 0, 0), NONE);
         DUE.is("the latest run stays", x.ran(0), 9);
         DUE.is("what it emitted stays", x.emitted(0), 9);
