@@ -631,8 +631,10 @@ public final class ValueBench {
             size = 0;
             Arrays.fill(choices, 0);
             Arrays.fill(given, NONE);
-            // The document numbers ZERO ahead of all BLOCKS, so it is there without any, too.
-            add(CONST, ENTRY, NONE, 0, 0);
+            // ZERO is of the ENTRY: without BLOCKS there is none, and so no VALUE.
+            if (graph.reaches(ENTRY)) {
+                add(CONST, ENTRY, NONE, 0, 0);
+            }
             for (int b = 0; b < MOST_BLOCKS; b++) {
                 if (graph.reaches(b)) {
                     numberChoices(graph, b);

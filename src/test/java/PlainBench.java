@@ -229,6 +229,9 @@ final class PlainBench {
 
     private void numberVals() {
         vals.clear();
+        if (lines.isEmpty()) {
+            return;
+        }
         addVal(0, 0, BEFORE_ALL, NONE, 0);
         for (int b : reached) {
             for (int v = 0; v < 10; v++) {

@@ -18,38 +18,61 @@ public final class ProgramTest {
         DUE.end();
     }
 
-    /** Without BLOCKS there is ZERO, which the document numbers ahead of them, and its CLASS. */
-    private static void countsOfNothing(ValueBench x) {
-        int[] due = {0, 0, 0, 1, 1, 0, 0};
+    /** Without BLOCKS there is no ENTRY, so no ZERO: nothing is counted, and no VALUE answers. */
+    private static void nothingIsThere(ValueBench x) {
         for (int what = 0; what <= 6; what++) {
-            DUE.is("count " + what + " of nothing", x.count(what), due[what]);
+            DUE.is("count " + what + " of nothing", x.count(what), 0);
         }
+        DUE.is("count 7 of nothing", x.count(7), NONE);
+        for (int v = -1; v <= 2; v++) {
+            for (int what = -1; what <= 7; what++) {
+                DUE.is("value " + v + ", " + what + " of nothing", x.value(v, what), NONE);
+            }
+            DUE.is("classOf " + v + " of nothing", x.classOf(v), NONE);
+            DUE.is("operand of nothing", x.operand(v, 0), NONE);
+            DUE.is("led of nothing", x.led(v, 0), NONE);
+        }
+        for (int led = 0; led <= 1; led++) {
+            DUE.is("read of nothing", x.read(0, led == 1), NONE);
+            DUE.is("emits of nothing", x.emits(0, 0, led == 1), NONE);
+        }
+        for (int what = 0; what <= 6; what++) {
+            DUE.is("about " + what + " of nothing", x.about(0, what), NONE);
+        }
+        DUE.is("predecessor of nothing", x.predecessor(0, 0), NONE);
+        DUE.is("dominates of nothing", x.dominates(0, 0), NONE);
+        DUE.is("meets of nothing", x.meets(0, 0), NONE);
+        for (int form = 0; form <= 2; form++) {
+            DUE.is("run " + form + " of nothing", x.run(form, 1, 2, 3, 4), NONE);
+        }
+        DUE.is("put of nothing", x.put(0, 0, 0, 0, 0), NONE);
+        DUE.is("ends of nothing", x.ends(0, 0, 0, 0, 0), false);
+    }
+
+    /** The first BLOCK is the ENTRY, and brings ZERO alone. */
+    private static void zeroComesWithTheEntry(ValueBench x) {
+        DUE.is("the ENTRY", x.block(), 0);
+        DUE.is("VALUES with the ENTRY", x.count(3), 1);
+        DUE.is("CLASSES with the ENTRY", x.count(4), 1);
+        DUE.is("REDUNDANT with the ENTRY", x.count(5), 0);
+        int[] due = {0, 0, NONE, 0, 0, 0, 0};
+        for (int what = 0; what <= 6; what++) {
+            DUE.is("ZERO, " + what, x.value(0, what), due[what]);
+        }
+        DUE.is("its CLASS", x.classOf(0), 0);
+        DUE.is("RETURN reads it", x.read(0, true), 0);
     }
 
     private static void newObject() {
         ValueBench x = new ValueBench();
-        countsOfNothing(x);
+        nothingIsThere(x);
         for (int what = -1; what <= 4; what++) {
             DUE.is("new ran " + what, x.ran(what), 0);
         }
         DUE.is("new emitted", x.emitted(0), 0);
-        DUE.is("new about", x.about(0, 0), NONE);
-        DUE.is("new about 3", x.about(0, 3), NONE);
-        DUE.is("new about 6", x.about(0, 6), NONE);
-        DUE.is("new predecessor", x.predecessor(0, 0), NONE);
-        DUE.is("new dominates", x.dominates(0, 0), NONE);
-        DUE.is("new meets", x.meets(0, 0), NONE);
-        DUE.is("new value", x.value(1, 0), NONE);
-        DUE.is("new operand", x.operand(0, 0), NONE);
-        DUE.is("new led", x.led(0, 0), NONE);
-        DUE.is("new classOf", x.classOf(1), NONE);
-        DUE.is("new read", x.read(0, false), NONE);
-        DUE.is("new emits", x.emits(0, 0, true), NONE);
-        DUE.is("new run", x.run(0, 1, 2, 3, 4), NONE);
-        DUE.is("new put", x.put(0, 0, 0, 0, 0), NONE);
-        DUE.is("new ends", x.ends(0, 0, 0, 0, 0), false);
         DUE.is("new clear", x.clear(), 0);
         DUE.is("new fuel", x.fuel(7), 1000);
+        zeroComesWithTheEntry(x);
     }
 
     private static void blocks() {
@@ -225,8 +248,7 @@ public final class ProgramTest {
         x.run(0, 0, 0, 0, 0);
         DUE.is("clear", x.clear(), 2);
         DUE.is("clear again", x.clear(), 0);
-        countsOfNothing(x);
-        DUE.is("run", x.run(0, 0, 0, 0, 0), NONE);
+        nothingIsThere(x);
         DUE.is("the latest run stays", x.ran(0), 9);
         DUE.is("what it emitted stays", x.emitted(0), 9);
         DUE.is("block", x.block(), 0);
@@ -239,7 +261,8 @@ public final class ProgramTest {
         DUE.is("of block 0", x.ran(3), 0);
         DUE.is("FUEL stays", x.fuel(1), 77);
         x.clear();
-        for (int b = 0; b < 16; b++) {
+        zeroComesWithTheEntry(x);
+        for (int b = 1; b < 16; b++) {
             DUE.is("block after clear", x.block(), b);
         }
     }
