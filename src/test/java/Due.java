@@ -3,16 +3,34 @@ final class Due {
     private final String title;
     private int asked = 0;
     private int wrong = 0;
+    private String sentence = "";
+    private int askedBefore = -1;
 
     Due(String title) {
         this.title = title;
+    }
+
+    /** What is asked from here on belongs to this sentence of the document. */
+    void of(String next) {
+        endSentence();
+        sentence = next;
+        askedBefore = asked;
+    }
+
+    /** A sentence of which nothing was asked has no test, so it counts as one that failed. */
+    private void endSentence() {
+        if (asked == askedBefore) {
+            wrong++;
+            System.out.println(title + ": [" + sentence + "] nothing was asked");
+        }
     }
 
     void is(String call, long got, long want) {
         asked++;
         if (got != want) {
             wrong++;
-            System.out.println(title + ": " + call + " answered " + got + ", due is " + want);
+            String place = sentence.isEmpty() ? title : title + ": [" + sentence + "]";
+            System.out.println(place + ": " + call + " answered " + got + ", due is " + want);
         }
     }
 
@@ -22,7 +40,8 @@ final class Due {
 
     /** Ends the test: with exit code 1 if an answer was wrong, or if none was asked for. */
     void end() {
-        System.out.println(title + ": " + (asked - wrong) + " of " + asked + " answers as due");
+        endSentence();
+        System.out.println(title + ": " + wrong + " wrong of " + asked + " answers");
         if (wrong != 0 || asked == 0) {
             System.exit(1);
         }
