@@ -11,7 +11,7 @@ public final class AgainstPlainTest {
     private static final int[] EDGES = {-1, 0, 1, 2, 31, 32, 33, -31, Integer.MIN_VALUE,
         Integer.MAX_VALUE, 7, -7};
 
-    private static long seed;
+    private static Draws draws;
     // Few VARIABLES and kinds make much that stands together; many make much that does not.
     private static int variables;
     private static int kinds;
@@ -36,7 +36,7 @@ public final class AgainstPlainTest {
     }
 
     private static void begin(int n) {
-        seed = n * 0x9E3779B97F4A7C15L;
+        draws = new Draws(n);
         variables = 2 + any(9);
         kinds = 1 + any(11);
         reach = 1 + any(16);
@@ -47,8 +47,7 @@ public final class AgainstPlainTest {
     }
 
     private static int any(int bound) {
-        seed = seed * 6364136223846793005L + 1442695040888963407L;
-        return (int) ((seed >>> 33) % bound);
+        return draws.any(bound);
     }
 
     /** A number of 0 to bound - 1, or, seldom, one that is off. */

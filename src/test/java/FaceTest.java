@@ -7,6 +7,7 @@ import java.nio.file.Files;
 import java.nio.file.Path;
 import java.util.Set;
 import java.util.TreeSet;
+import java.util.regex.Matcher;
 import java.util.regex.Pattern;
 
 /** The public face, and those rules of LANGUAGE.md that can be read off the class or its text. */
@@ -26,6 +27,12 @@ public final class FaceTest {
         "\\bhashCode\\b", "\\btoString\\b", "Exact\\b", "\\bvar\\b", "static \\{", "\\bvolatile\\b",
         "while \\(true\\)", "for \\(;;\\)",
     };
+
+    // Of what rule 4 lists, all that the class has needed so far.
+    private static final Set<String> LIBRARY = Set.of("Arrays.fill", "System.arraycopy",
+            "Integer.bitCount");
+    private static final Pattern LIBRARY_CALL = Pattern.compile(
+            "\\b(Arrays|System|Integer|Long|Math|Character|Objects|String)\\.\\w+");
 
     public static void main(String[] args) throws IOException {
         face();
@@ -94,6 +101,9 @@ public final class FaceTest {
         String code = text.replaceAll("(?s)/\\*.*?\\*/", "").replaceAll("//[^\n]*", "");
         for (String word : FORBIDDEN) {
             DUE.is("the text has " + word, Pattern.compile(word).matcher(code).find(), false);
+        }
+        for (Matcher m = LIBRARY_CALL.matcher(code); m.find();) {
+            DUE.is(m.group() + " is of rule 4", LIBRARY.contains(m.group()), true);
         }
         String imports = String.join(" ", code.lines().filter(l -> l.startsWith("import")).toList());
         DUE.is("imports", imports.equals("import java.util.Arrays;"), true);
